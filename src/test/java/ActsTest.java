@@ -250,6 +250,17 @@ public final class ActsTest {
         Check.same("lake(1)", y.lake(1), 40);
         Check.same("cell(0, 0)", y.cell(0, 0), 5);
         Check.same("undo() behind back", y.undo(), 0);
+        DamOfTurf z = Check.dam(MUDDY);
+        z.put(1, 3, 4);
+        z.dig(0, 1);
+        z.keep();
+        z.undo();
+        z.undo();
+        z.put(0, 1, 7);
+        z.dig(1, 2);
+        z.back();
+        Check.same("what was laid where, behind back", z.cell(1, 0) * 10 + z.cell(1, 1), 103);
+        Check.same("what was dug where, behind back", z.cell(0, 0) * 10 + z.cell(0, 1), 40);
     }
 
     private static void backRestoresWater() {

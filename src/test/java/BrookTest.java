@@ -242,6 +242,17 @@ public final class BrookTest {
         Check.same("cell(0, 0)", x.cell(0, 0), 9);
         Check.same("lake(1)", x.lake(1), 0);
         Check.same("comes(1)", x.comes(1), 0);
+        // What the text ahead told of banks and lake is told no more.
+        x.wipe();
+        Check.type(x, "c30,2;b3,2;a9,5;f0,9;");
+        x.laid();
+        x.wipe();
+        Check.type(x, "c30,2;f0,13;");
+        x.laid();
+        Check.same("edge(0) without banks again", x.edge(0), 20);
+        Check.same("edge(1) without banks again", x.edge(1), 8);
+        Check.same("6, 1 again: 13 units", x.pass(1), 1);
+        Check.same("6, 1 again: 26 units", x.pass(1), 3);
     }
 
     private static void laidWithout() {
@@ -325,6 +336,9 @@ public final class BrookTest {
         y.pass(1);
         Check.same("a cell of 0 inches does not seep", y.lake(4), 4);
         Check.same("the others' water goes over", y.lake(3), 5);
+        DamOfTurf v = Check.dam("c1,3;b50,50;a1,0;f0,9;");
+        v.pass(1);
+        Check.same("a cell of an inch seeps", v.lake(4), 3);
         // What seeps is by the level ahead of what goes over.
         DamOfTurf z = Check.dam("c2,3;b50,50;a1,0;f0,9;");
         z.pass(1);

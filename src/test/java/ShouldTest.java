@@ -118,6 +118,9 @@ public final class ShouldTest {
         gap(Check.dam("c5,2;c9,3;b50,50;a3,0;f0,3;"), 60, 40, 0);
         gap(Check.dam("c5,2;c9,3;b50,50;a3,0;f0,9;"), 60, 9, 0);
         gap(Check.dam("c9,3;c5,2;b50,50;a3,0;f0,3;"), 60, 40, 1);
+        // A single unit that goes over elsewhere is too much.
+        gap(Check.dam("c10,2;c12,2;b50,50;a10,0;f0,10;f13,1;f14,0;"), 60, 12, 0);
+        gap(Check.dam("c10,2;c12,2;b50,50;a10,0;f0,10;f13,0;"), 60, 40, 0);
         DamOfTurf y = Check.dam("c10,2;c12,2;b50,50;a10,0;f0,10;");
         y.pass(9);
         gap(y, 3, 40, 0);
@@ -266,6 +269,7 @@ public final class ShouldTest {
         Check.same("fill(3)", z.fill(3), 4);
         z.pass(3);
         Check.same("in minute 3, fill(2)", z.fill(2), 1);
+        Check.same("fill(1) by nine a minute", Check.dam("c9,2;b50,50;a10,0;f0,9;").fill(1), 2);
         // What goes over is not there: 20 units come, 10 stay.
         Check.same("fill(2)", Check.dam("c1,2;b50,50;a10,0;f0,20;").fill(2), NONE);
         // What seeps is not there either.

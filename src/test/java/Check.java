@@ -1,3 +1,5 @@
+import java.util.function.IntUnaryOperator;
+
 /** Counts answers that are as due and those that are not; makes dams from texts. */
 final class Check {
     private static final int ALL_FLOWS = 2147483647;
@@ -64,6 +66,16 @@ final class Check {
             all.append(x.count(what)).append(' ');
         }
         return all.append(x.flows()).append(' ').append(x.fault()).toString();
+    }
+
+    /** That the least and the greatest number of a range are taken, and those beside it and far from it are BAD. */
+    static void range(String name, int least, int greatest, IntUnaryOperator call) {
+        for (int n : new int[] {least, greatest}) {
+            same(name + " of " + n + " is taken", call.applyAsInt(n) == DamOfTurf.BAD ? 0 : 1, 1);
+        }
+        for (int n : new int[] {least - 1, greatest + 1, Integer.MIN_VALUE, Integer.MAX_VALUE}) {
+            same(name + " of " + n, call.applyAsInt(n), DamOfTurf.BAD);
+        }
     }
 
     static int allFlows() {

@@ -30,6 +30,7 @@ public final class BoundsOfActsTest {
         undoneMinutes();
         keptAre2();
         keptAreAllActs();
+        keptAsTheyWere();
         keptLastIsFirstBack();
         backIsNoUndo();
         backAtTheGreatest();
@@ -381,6 +382,32 @@ public final class BoundsOfActsTest {
         Check.same("state", Check.state(x), kept(thirty, "30 0 2", "30 0 1"));
         Check.same("back() to none", x.back(), 0);
         Check.same("state", Check.state(x), none);
+    }
+
+    /** Each ACT with its CELL, STUFF and inches or minutes, whatever was done in its stead since. */
+    private static void keptAsTheyWere() {
+        DamOfTurf x = Check.dam("c9,2;c9,2;b50,50;a1,0;f0,3;");
+        x.put(0, 1, 3);
+        x.put(1, 3, 2);
+        x.pass(4);
+        x.dig(1, 5);
+        x.keep();
+        String was = Check.state(x);
+        for (int k = 0; k < 4; k++) {
+            x.undo();
+        }
+        x.dig(0, 9);
+        x.put(0, 0, 9);
+        x.put(0, 2, 1);
+        x.pass(1);
+        x.pass(60);
+        x.put(1, 0, 9);
+        Check.same("back()", x.back(), 0);
+        Check.same("state", Check.state(x), kept(was, "4 0 1", "4 0 0"));
+        for (int left = 3; left >= 0; left--) {
+            Check.same("undo()", x.undo(), left);
+        }
+        Check.same("undo() of no more", x.undo(), NO);
     }
 
     private static String kept(String state, String was, String is) {

@@ -67,6 +67,11 @@ public final class BoundsOfShouldTest {
             DamOfTurf y = Check.dam("c9,2;b50,50;a1,0;f0,9;");
             Check.same("nine units by STUFF " + stuff, y.best(1, stuff, 1, -1), seeped[stuff]);
         }
+        // Where none of it is laid the STUFF stays.
+        DamOfTurf z = Check.dam("c9,2;c9,2;b50,50;a1,0;f0,60;");
+        for (int c = -1; c <= 1; c++) {
+            Check.same("MUD beside SLATE, best(1, 0, 60, " + c + ")", z.best(1, 0, 60, c), c == -1 ? 9 : c == 0 ? 1 : 0);
+        }
     }
 
     /** "behind n minutes (1 to 60)" */

@@ -21,14 +21,17 @@ public final class BoundsOfTextTest {
         numbersAreAsManyAsTold();
         semicolonStandsBehindTheLast();
         eachNumberIsWithinItsLimits();
+        lettersAreSeven();
         rainEndsNoSoonerThanItBegins();
         cellOfAJobIsToldAhead();
         itemsAreSoMany();
         banksAndLakeAsOftenAsWanted();
         faultIsThatOfTheFirst();
         laidIsOfACellAtLeast();
+        laidAtFirst();
         laidTakesAllBack();
         laidKeepsTheText();
+        laidTellsNothingOfTheOneAhead();
         greatestNumbersAreLaid();
         banksWithout();
         lakeWithout();
@@ -193,6 +196,18 @@ public final class BoundsOfTextTest {
         }
     }
 
+    /** "ITEMS .., each a letter": of c, b, a, f, r, p, j. */
+    private static void lettersAreSeven() {
+        for (int letter = 32; letter <= 126; letter++) {
+            for (int numbers = 0; numbers <= 5; numbers++) {
+                String item = (char) letter + ",1".repeat(numbers).replaceFirst(",", "") + ";";
+                boolean due = numbers == 2 && "cbaf".indexOf(letter) >= 0 || numbers == 3 && "rj".indexOf(letter) >= 0
+                        || numbers == 4 && letter == 'p';
+                fault("c9,2;c9,2;" + item, due ? NONE : 10);
+            }
+        }
+    }
+
     /** "M no more than N" */
     private static void rainEndsNoSoonerThanItBegins() {
         for (int m = 0; m <= 99; m += 33) {
@@ -271,6 +286,33 @@ public final class BoundsOfTextTest {
         Check.same("laid() of a cell and a fault", typed("c9,2;c").laid(), NO);
     }
 
+    /** "at first c10,0;c8,1;c12,3;b20,20;a6,1;f0,9;p3,1,0,2;p1,2,1,0;j0,0,6;j1,1,4;" */
+    private static void laidAtFirst() {
+        String text = "c10,0;c8,1;c12,3;b20,20;a6,1;f0,9;p3,1,0,2;p1,2,1,0;j0,0,6;j1,1,4;";
+        DamOfTurf laid = Check.dam(text);
+        DamOfTurf x = new DamOfTurf();
+        laid.wipe();
+        Check.same("state", Check.state(x), Check.state(laid));
+        int[] cells = {10, 0, 0, 8, 1, 0, 12, 3, 0};
+        for (int k = 0; k < cells.length; k++) {
+            Check.same("cell(" + k / 3 + ", " + k % 3 + ")", x.cell(k / 3, k % 3), cells[k]);
+        }
+        int[] counts = {3, 2, 2, 0, 0, 0, 0};
+        for (int what = 0; what <= 6; what++) {
+            Check.same("count(" + what + ")", x.count(what), counts[what]);
+        }
+        for (int what = 0; what <= 4; what++) {
+            Check.same("lake(" + what + ")", x.lake(what), 0);
+        }
+        Check.same("comes(1)", x.comes(1), 9);
+        Check.same("comes(999)", x.comes(999), 9);
+        Check.same("a level of 1 takes 7", x.pass(1), 1);
+        Check.same("together(-1)", x.together(-1), 2);
+        Check.same("who lays six of MUD", x.together(0), 0);
+        Check.same("who lays four of TURF", x.together(1), 1);
+        Check.same("no later job", x.together(2), DamOfTurf.BAD);
+    }
+
     /** "LAID: how many CELLS; no water, no ACTS, nothing SEEN, KEPT." */
     private static void laidTakesAllBack() {
         DamOfTurf x = Check.dam("c2,0;c40,3;b50,50;a10,0;f0,60;");
@@ -314,6 +356,36 @@ public final class BoundsOfTextTest {
         Check.same("cell(0, 0)", x.cell(0, 0), 9);
         Check.same("laid() of no text", x.laid(), NO);
         Check.same("cell(0, 0) behind it", x.cell(0, 0), 9);
+    }
+
+    /** What a text does not tell is as without, whatever the one ahead told. */
+    private static void laidTellsNothingOfTheOneAhead() {
+        for (String banks : new String[] {"b5,50;", "b50,5;", "b40,40;"}) {
+            DamOfTurf x = Check.dam("c30,2;c30,1;c0,3;a1,0;f0,60;r0,99,30;p9,9,9,9;j0,0,30;" + banks);
+            x.wipe();
+            Check.type(x, "c30,2;f9,15;");
+            Check.same("laid()", x.laid(), 1);
+            Check.same("edge(0) behind " + banks, x.edge(0), 20);
+            Check.same("edge(1) behind " + banks, x.edge(1), 8);
+            Check.same("comes(8)", x.comes(8), 0);
+            Check.same("comes(9)", x.comes(9), 15);
+            Check.same("count(1)", x.count(1), 0);
+            Check.same("count(2)", x.count(2), 0);
+            Check.same("together(-1)", x.together(-1), 0);
+            x.pass(8);
+            Check.same("15 units are of two inches", x.pass(1), 2);
+            Check.same("worn(1, 0)", x.worn(1, 0), DamOfTurf.BAD);
+            // Nor does a text that is looked at for its fault tell anything.
+            x.wipe();
+            Check.type(x, "c9,2;b1,1;a1,0;f0,60;");
+            Check.same("fault()", x.fault(), NONE);
+            Check.same("edge(0)", x.edge(0), 20);
+            Check.same("comes(1)", x.comes(1), 0);
+            Check.type(x, "c");
+            Check.same("laid() of a fault", x.laid(), NO);
+            Check.same("edge(0)", x.edge(0), 20);
+            Check.same("lake(0)", x.lake(0), 2);
+        }
     }
 
     private static void greatestNumbersAreLaid() {

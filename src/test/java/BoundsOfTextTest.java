@@ -361,18 +361,20 @@ public final class BoundsOfTextTest {
     /** What a text does not tell is as without, whatever the one ahead told. */
     private static void laidTellsNothingOfTheOneAhead() {
         for (String banks : new String[] {"b5,50;", "b50,5;", "b40,40;"}) {
-            DamOfTurf x = Check.dam("c30,2;c30,1;c0,3;a1,0;f0,60;r0,99,30;p9,9,9,9;j0,0,30;" + banks);
+            DamOfTurf x = Check.dam("c30,2;c30,1;c0,3;a1,0;f0,60;f1,60;r0,99,30;p9,9,9,9;j0,0,30;" + banks);
             x.wipe();
-            Check.type(x, "c30,2;f9,15;");
+            Check.type(x, "c30,2;f9,14;f10,1;");
             Check.same("laid()", x.laid(), 1);
             Check.same("edge(0) behind " + banks, x.edge(0), 20);
             Check.same("edge(1) behind " + banks, x.edge(1), 8);
             Check.same("comes(8)", x.comes(8), 0);
-            Check.same("comes(9)", x.comes(9), 15);
+            Check.same("comes(9)", x.comes(9), 14);
+            Check.same("comes(10)", x.comes(10), 1);
             Check.same("count(1)", x.count(1), 0);
             Check.same("count(2)", x.count(2), 0);
             Check.same("together(-1)", x.together(-1), 0);
             x.pass(8);
+            Check.same("14 units are of an inch", x.pass(1), 1);
             Check.same("15 units are of two inches", x.pass(1), 2);
             Check.same("worn(1, 0)", x.worn(1, 0), DamOfTurf.BAD);
             // Nor does a text that is looked at for its fault tell anything.

@@ -28,6 +28,7 @@ public final class BoundsOfShouldTest {
         togetherOneBehindTheOther();
         togetherOfSeveralIsTheFirst();
         togetherAtTheGreatest();
+        togetherWhateverTheCell();
         slowOfACell();
         slowBy0To999();
         slowInEachOf1To9();
@@ -43,6 +44,7 @@ public final class BoundsOfShouldTest {
         troddenLaterOrSooner();
         troddenIn200Minutes();
         troddenNone();
+        allGoBeyond999();
         Check.end();
     }
 
@@ -341,6 +343,20 @@ public final class BoundsOfShouldTest {
         Check.same("the last", y.together(4), 3);
     }
 
+    /** "a JOB: N inches (1 to 30) of STUFF K at CELL C": told, but nothing is laid, nor does it matter where. */
+    private static void togetherWhateverTheCell() {
+        for (String at : new String[] {"j0,0,30;j0,0,30;", "j1,0,30;j0,0,30;", "j1,0,30;j1,0,30;"}) {
+            DamOfTurf x = Check.dam("c40,2;c11,1;p7,0,0,0;p6,0,0,0;" + at);
+            Check.same("together(-1) of " + at, x.together(-1), 5);
+            Check.same("together(0) of " + at, x.together(0), 0);
+            Check.same("together(1) of " + at, x.together(1), 1);
+            Check.same("the cells", x.cell(0, 0) * 100 + x.cell(1, 0), 4011);
+            x.dig(1, 9);
+            x.pass(60);
+            Check.same("together(-1) behind ACTS", x.together(-1), 5);
+        }
+    }
+
     /** "m (what = 0), in which minute the LEVEL is 0 (1 ..)" of a CELL */
     private static void slowOfACell() {
         for (int cells = 1; cells <= 8; cells += 7) {
@@ -593,5 +609,28 @@ public final class BoundsOfShouldTest {
         Check.same("in minute 201", Check.dam("c36,0;b50,50;a5,0;f4,1;").trodden(0, 1), NONE);
         Check.same("NO ahead of NONE", Check.dam("c40,2;f0,60;").trodden(0, 1), NO);
         Check.same("BAD ahead of NO", Check.dam("c40,2;f0,60;").trodden(0, 10), BAD);
+    }
+
+    /** "From now on": 999 minutes bound the ACTS alone. */
+    private static void allGoBeyond999() {
+        DamOfTurf x = Check.dam("c30,0;b50,50;a20,5;f0,1;");
+        for (int k = 0; k < 17; k++) {
+            x.pass(k == 16 ? 39 : 60);
+        }
+        Check.same("minutes", x.lake(2), 999);
+        Check.same("water", x.lake(1), 999);
+        Check.same("an inch of SLATE", x.best(1, 2, 60, -1), 1059);
+        Check.same("no gap is gone over", x.gap(60, 0), 40);
+        // Of twelve inches less it takes 1215 units in minute 60, of fourteen less 1000 in minute 56.
+        Check.same("each fifth minute", x.slow(0, 0, 0), 5);
+        Check.same("not empty", x.slow(0, 0, 1), NONE);
+        Check.same("25 units are an inch", x.fill(1), 25);
+        Check.same("175 units are five inches", x.fill(5), 175);
+        Check.same("225 units, which six take, do not come in 200", x.fill(6), NONE);
+        x.dig(0, 9);
+        x.dig(0, 9);
+        Check.same("MUD of twelve inches", x.gone(0), 6);
+        Check.same("of thirteen", x.trodden(0, 1), 201);
+        Check.same("it does not hold for ten minutes", x.odds(1, 0, 10, 0), 0);
     }
 }
